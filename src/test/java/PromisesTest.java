@@ -195,6 +195,19 @@ public final class PromisesTest {
         due("boat(70, 0), the ninth", s.boat(70, 0), BEYOND);
         due("boat(0, 24), the ninth", s.boat(0, 24), BEYOND);
         same("boat", was, s);
+        s = new WindPrice();
+        s.image();
+        s.boat(10, 0);
+        s.hours(1);
+        s.set(0, 7, 1);
+        s.set(0, 4, 5);
+        s.set(0, 3, 2);
+        s.restore();
+        s.boat(43, 9);
+        int[] fresh = {4, 3, 9, 1, 99, 0, 0, 0, 3, 0};
+        for (int what = 0; what <= 9; what++) {
+            due("a number that another one had: boatIs(0, " + what + ")", s.boatIs(0, what), fresh[what]);
+        }
     }
 
     private static void boatIs() {
@@ -496,6 +509,7 @@ public final class PromisesTest {
         due("hours(240), no BOATS", s.hours(240), 0);
         due("count(1)", s.count(1), 240);
         hoursBills();
+        hoursOfEight();
         hoursMoves();
         hoursLimits();
     }
@@ -534,6 +548,25 @@ public final class PromisesTest {
         due("a FURLED one takes nothing", s.hours(1), 45);
         due("and stays", s.boatIs(0, 2), 0);
         due("while the other one goes", s.boatIs(1, 2), 2);
+    }
+
+    private static void hoursOfEight() {
+        WindPrice s = new WindPrice();
+        for (int h = 0; h < 24; h++) {
+            s.wind(h, 403);
+        }
+        for (int i = 0; i < 8; i++) {
+            s.boat(41, 0);
+        }
+        due("1*3 - 2 of each", s.hours(1), 8 * 1);
+        due("none sails on less than 3 knots", s.boatIs(7, 2), 0);
+        due("USED of all", s.count(5), 8);
+        due("8 knots taken", s.gone(0), 32);
+        due("the same, AHEAD", s.then(10, 7, 5), 11);
+        s.image();
+        s.hours(5);
+        s.restore();
+        due("the last one, restored", s.boatIs(7, 5), 1);
     }
 
     private static void hoursMoves() {
@@ -635,6 +668,9 @@ public final class PromisesTest {
         for (int h = 0; h < 24; h++) {
             due("it stays so: wind(" + h + ", 3)", s.wind(h, 3), 10 * knots[h] + 3);
         }
+        s = new WindPrice();
+        s.boat(20, 0);
+        due("bread", s.loose(7), 7);
         looseEdges();
     }
 
@@ -644,16 +680,18 @@ public final class PromisesTest {
             s.wind(h, h % 2 == 0 ? h % 4 : 400 + h % 4);
         }
         s.loose(24);
-        boolean held = true;
-        int moved = 0;
+        int z = 1;
+        int low = 0;
+        int high = 0;
         for (int h = 0; h < 24; h++) {
-            int kw = s.wind(h, 0);
-            held &= kw >= 0 && kw / 10 <= 40 && kw % 10 == h % 4;
-            held &= h % 2 == 0 ? kw / 10 <= 3 : kw / 10 >= 37;
-            moved += kw / 10 != (h % 2 == 0 ? 0 : 40) ? 1 : 0;
+            z = z * 1103515245 + 12345;
+            int more = (z >>> 8) % 7 - 3;
+            low += h % 2 == 0 && more < 0 ? 1 : 0;
+            high += h % 2 == 1 && more > 0 ? 1 : 0;
+            int knots = h % 2 == 0 ? Math.max(0, more) : Math.min(40, 40 + more);
+            due("KNOTS are held, the WAY stays: wind(" + h + ", 0)", s.wind(h, 0), 10 * knots + h % 4);
         }
-        due("KNOTS are held, the WAY stays", held ? 1 : 0, 1);
-        due("some were moved", moved > 4 ? 1 : 0, 1);
+        due("both edges were met", low > 0 && high > 0 ? 1 : 0, 1);
         s = new WindPrice();
         for (int i = 0; i < 41; i++) {
             s.hours(240);
@@ -780,6 +818,11 @@ public final class PromisesTest {
         s.set(0, 4, 30);
         s.set(1, 4, 30);
         due("so that none takes", s.dearest(0, 1), 31);
+        s = new WindPrice();
+        s.boat(10, 18);
+        due("the last QUARTER, the greatest PRICE", s.dearest(3, 1), 99);
+        s.set(0, 7, 1);
+        due("a GRANT AHEAD, too: no bills", s.dearest(3, 2), 0);
     }
 
     private static void lee() {
@@ -855,6 +898,14 @@ public final class PromisesTest {
         due("columns: 8 behind column 0", s.who(0, 8, 1), 4);
         due("columns: 5", s.who(5, 16, 0), 1);
         due("columns: 6", s.who(6, 16, 0), BEYOND);
+        s = new WindPrice();
+        for (int i = 0; i < 8; i++) {
+            s.boat(31, 12 + i % 6);
+        }
+        due("10 goes down to 4, 1, 0: sets of three or more", s.who(2, 0, 0), 256 - 1 - 8 - 28);
+        due("the least of them", s.who(2, 0, 1), 7);
+        due("maybe all", s.who(2, 0, 3), 255);
+        due("surely none", s.who(2, 0, 2), 0);
     }
 
     private static void voyage() {
@@ -865,6 +916,7 @@ public final class PromisesTest {
         due("by OAR", s.voyage(9, 10, 1), 2);
         due("voyage(0, 23, 8)", s.voyage(0, 23, 8), 16);
         due("voyage(0, 23, 7)", s.voyage(0, 23, 7), NONE);
+        due("voyage(23, 0, 8)", s.voyage(23, 0, 8), 16);
         due("no way round from row to row", s.voyage(5, 6, 1), NONE);
         due("voyage(-1, 0, 1)", s.voyage(-1, 0, 1), BEYOND);
         due("voyage(24, 0, 1)", s.voyage(24, 0, 1), BEYOND);
@@ -899,7 +951,7 @@ public final class PromisesTest {
         promise = 23;
         int[][] due = {
             // KIND; what sails, takes, owes answer with m 9, k 2, x 100; a SAILER takes(1) nothing as its third
-            {0, 102, 204, 195}, {1, 99, 198, 189}, {2, 102, -204, -213}, {3, 297, 594, 585 ^ 2},
+            {0, 102, 204, 195}, {1, 99, 198, 189}, {2, 102, -204, -213}, {3, 297, 594, 587},
             {4, 99, 198, 89}, {5, 102, -206, -215}, {6, 5, 19, 10},
         };
         for (int[] d : due) {
@@ -915,6 +967,7 @@ public final class PromisesTest {
             s.set(2, 1, 2);
             due("KIND " + d[0] + ": PARTED", s.voice(2, 3, 100), PARTED);
             due("told(6)", s.told(6), 1);
+            due("KIND " + d[0] + ": behind PARTED", s.voice(2, 0, 100), d[1]);
         }
         WindPrice s = new WindPrice();
         s.boat(15, 0);
@@ -929,6 +982,9 @@ public final class PromisesTest {
         int told = s.told(6);
         due("an answer like an ERROR", s.voice(1, 0, PARTED - 1), PARTED);
         due("is none", s.told(6), told);
+        s.boat(36, 0);
+        s.boat(37, 0);
+        due("^ of like bits: 3 of (1 + 3 - 3) * 3 * 2 - 7", s.voice(3, 2, 1), -1 ^ 3);
         s.set(0, 0, 4);
         due("x / 2 is cut toward 0", s.voice(0, 2, -3), (-1 - 3) * 2 - 5);
     }
@@ -1163,8 +1219,8 @@ public final class PromisesTest {
         text(s, 1, "t*7");
         s.seed(99);
         s.hours(5);
-        s.tell(4);
-        s.tell(5);
+        s.tell(7);
+        s.tell(7);
         feed(s, "12+");
         s.voice(0, 0, 1);
         String was = look(s);
@@ -1182,7 +1238,7 @@ public final class PromisesTest {
         s.check(0);
         s.tell(19);
         s.text(1);
-        feed(s, "99999");
+        feed(s, ")))))");
         s.sheet(2, 8, 3);
         due("restore()", s.restore(), 5);
         same("restore", was, s);
@@ -1191,7 +1247,7 @@ public final class PromisesTest {
         due("THE TAPE", s.count(6), 3);
         due("feed(3, 1)", s.feed('3', 1), 4);
         due("text(1), 12+3", s.text(1), 1);
-        due("numbers that wait", s.check(0), 1);
+        due("numbers that wait", s.check(0), 0);
         due("SHEETS stay", s.put(2, 2, 1), 1);
         s.hours(7);
         due("the IMAGE stays", s.restore(), 5);
@@ -1207,6 +1263,11 @@ public final class PromisesTest {
         s.price(0, 55);
         s.restore();
         due("nothing is shared with the IMAGE", s.boatIs(0, 1), 4);
+        s.set(0, 7, 1);
+        s.image();
+        s.set(0, 7, 0);
+        s.restore();
+        due("GRANT, too", s.boatIs(0, 7), 1);
         due("nothing is shared with the IMAGE", s.count(10), 3);
     }
 

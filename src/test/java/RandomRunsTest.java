@@ -7,7 +7,7 @@ import java.util.Random;
 
 /** Random runs of calls: WindPrice against PlainModel, a second program of the same document. */
 public final class RandomRunsTest {
-    private static final int RUNS = 1200;
+    private static final int RUNS = 500;
     private static final int CALLS = 400;
     private static final String[] NAMES = {
         "wind", "price", "boat", "boatIs", "as", "set", "pay", "blows", "gone", "feed", "text", "untell",
