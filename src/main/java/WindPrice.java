@@ -54,7 +54,7 @@ public final class WindPrice {
     private final Sea keptSea = new Sea();
     private final Desk desk = new Desk();
     private final Desk keptDesk = new Desk();
-    private final Reader reader = new Reader(desk);
+    private final Reader reader = new Reader();
     private final Voyage route = new Voyage();
     private final Voices voices = new Voices();
     private final Sheet[] sheets = new Sheet[SHEETS];
@@ -167,7 +167,7 @@ public final class WindPrice {
         if (!within(use, 0, USES - 1)) {
             return refuse(BEYOND);
         }
-        Text read = reader.read(use);
+        Text read = reader.read(desk, use);
         desk.bytes = 0;
         if (read == null) {
             return FAULT_AT_0 - reader.place;
@@ -710,7 +710,7 @@ public final class WindPrice {
 
         int priceIn(int cell) {
             int quarter = cell / COLUMNS;
-            return within(quarter, 0, ROWS - 1) ? prices[quarter] : 0;
+            return quarter >= 0 && quarter < ROWS ? prices[quarter] : 0;
         }
 
         boolean isFurled(Boat boat) {
@@ -949,7 +949,7 @@ public final class WindPrice {
                     }
                 } else if (word == SIGN + '!') {
                     if (top > 0) {
-                        stack[top - 1] = truth(stack[top - 1] == 0);
+                        stack[top - 1] = stack[top - 1] == 0 ? 1 : 0;
                     }
                 } else if (top > 1) {
                     top--;
@@ -966,22 +966,18 @@ public final class WindPrice {
             return name == 1 ? second : third;
         }
 
-        private static int truth(boolean is) {
-            return is ? 1 : 0;
-        }
-
         private static int joined(int sign, int a, int b) {
             switch (sign) {
                 case '|':
-                    return truth(a != 0 || b != 0);
+                    return a != 0 || b != 0 ? 1 : 0;
                 case '&':
-                    return truth(a != 0 && b != 0);
+                    return a != 0 && b != 0 ? 1 : 0;
                 case '<':
-                    return truth(a < b);
+                    return a < b ? 1 : 0;
                 case '=':
-                    return truth(a == b);
+                    return a == b ? 1 : 0;
                 case '>':
-                    return truth(a > b);
+                    return a > b ? 1 : 0;
                 case '+':
                     return a + b;
                 case '-':
@@ -1004,25 +1000,24 @@ public final class WindPrice {
         private static final int DIGITS_MOST = 4;
         private static final int END = -1;
 
-        private final Desk desk;
+        private final int[] tape = new int[TAPE_MOST];
         private final int[] words = new int[TAPE_MOST];
         private String names = "";
+        private int bytes;
         private int size;
         private int place;
         private boolean faulty;
 
-        Reader(Desk desk) {
-            this.desk = desk;
-        }
-
         /** The TEXT of a USE; null if there is a FAULT, which is at place then. */
-        Text read(int use) {
+        Text read(Desk desk, int use) {
+            System.arraycopy(desk.tape, 0, tape, 0, TAPE_MOST);
+            bytes = desk.bytes;
             names = use == GRINDS ? "bhm" : "tpk";
             size = 0;
             place = 0;
             faulty = false;
             readLevel(0, 0);
-            if (faulty || place < desk.bytes) {
+            if (faulty || place < bytes) {
                 return null;
             }
             return new Text(Arrays.copyOf(words, size));
@@ -1089,7 +1084,7 @@ public final class WindPrice {
         }
 
         private int peek() {
-            return within(place, 0, desk.bytes - 1) ? desk.tape[place] : END;
+            return within(place, 0, bytes - 1) ? tape[place] : END;
         }
 
         private static boolean isDigit(int b) {
