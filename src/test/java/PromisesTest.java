@@ -562,6 +562,8 @@ public final class PromisesTest {
         due("none sails on less than 3 knots", s.boatIs(7, 2), 0);
         due("USED of all", s.count(5), 8);
         due("8 knots taken", s.gone(0), 32);
+        due("8 knots taken to windward", s.blows(1), 32);
+        due("all of the line", s.who(0, 32, 1), 255);
         due("the same, AHEAD", s.then(10, 7, 5), 11);
         s.image();
         s.hours(5);
