@@ -113,7 +113,8 @@ public final class BoundsHoursTest {
     /** A BOAT that is to turn: its HEAD behind an HOUR, and the CELL in which it is behind another one. */
     private static String turn(int km, int kw, int cell, int head, int turned, int later) {
         return "boat(" + km + ", " + cell + "); wind(0, " + kw + "); wind(1, " + kw + "); set(0, 3, " + head + "); hours(1);"
-            + "boatIs(0, 2) = " + cell + "; boatIs(0, 3) = " + turned + "; hours(1); boatIs(0, 2) = " + later + "; boatIs(0, 3) = " + turned;
+            + "boatIs(0, 2) = " + cell + "; boatIs(0, 3) = " + turned + "; hours(1);"
+            + "boatIs(0, 2) = " + later + "; boatIs(0, 3) = " + turned;
     }
 
     private static void turns() {
@@ -215,6 +216,8 @@ public final class BoundsHoursTest {
                 + "who(0, 8, 2) = 0; who(0, 8, 3) = 11;"
                 + "who(0, 4, 0) = 2; who(0, 4, 1) = 10; who(0, 4, 2) = 10; who(0, 4, 3) = 11; who(0, 16, 0) = 2; "
                 + "who(0, 16, 1) = 0; who(0, 16, 3) = 1",
+            "wind(0, 203); boat(42, 0); boat(42, 1); boat(44, 2); who(0, 16, 0) = 2; who(0, 16, 1) = 3; who(0, 16, 2) = 0; "
+                + "who(0, 16, 3) = 7; who(0, 14, 1) = 5; who(0, 14, 2) = 4; who(0, 12, 1) = 7; who(0, 18, 0) = 2; who(0, 18, 1) = 1",
             "who(0, 9, 0) = 0; who(0, 9, 1) = NONE; who(0, 9, 2) = NONE; who(0, 9, 3) = 0");
     }
 

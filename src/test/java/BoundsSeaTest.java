@@ -384,6 +384,15 @@ public final class BoundsSeaTest {
             "boat(10, 0); as(0, 3) = KIND; as(0, 4) = KIND; set(0, 0, 3); as(0, 3) = 0; as(0, 4) = KIND");
     }
 
+    /** All parts of BOAT 0, from its KIND to its GRANT. */
+    private static String parts(int... want) {
+        StringBuilder run = new StringBuilder();
+        for (int what = 0; what < want.length; what++) {
+            run.append("; boatIs(0, " + what + ") = " + want[what]);
+        }
+        return run.toString();
+    }
+
     private static void set() {
         B.test("Promise 7", "KIND (what 0), m (1), CELL (2), HEAD (3), LIMIT (4), GRANT (7) of a BOAT becomes v: what it was.",
             "boat(12, 7); set(0, 0, 0) = 1; set(0, 0, 6) = 0; boatIs(0, 0) = 6; set(0, 1, 0) = 2; set(0, 1, 9) = 0; "
@@ -391,7 +400,12 @@ public final class BoundsSeaTest {
             "boat(12, 7); set(0, 3, 0) = 1; set(0, 3, 3) = 0; boatIs(0, 3) = 3; set(0, 4, 0) = 99; set(0, 4, 99) = 0; "
                 + "boatIs(0, 4) = 99; set(0, 7, 1) = 0; set(0, 7, 0) = 1; boatIs(0, 7) = 0",
             "8 x boat(12, 7); set(7, 2, 0) = 7; boatIs(7, 2) = 0; boatIs(6, 2) = 7",
-            "boat(60, 0); hours(1); set(0, 0, 1); boatIs(0, 5) = 9; boatIs(0, 6) = 3; boatIs(0, 8) = 5");
+            "boat(60, 0); hours(1); set(0, 0, 1); boatIs(0, 5) = 9; boatIs(0, 6) = 3; boatIs(0, 8) = 5",
+            "boat(65, 7); hours(2); set(0, 3, 2); set(0, 4, 44); set(0, 7, 1)" + parts(6, 5, 7, 2, 44, 18, 6, 1)
+                + "; set(0, 0, 3) = 6" + parts(3, 5, 7, 2, 44, 18, 6, 1) + "; set(0, 1, 8) = 5" + parts(3, 8, 7, 2, 44, 18, 6, 1)
+                + "; set(0, 2, 20) = 7" + parts(3, 8, 20, 2, 44, 18, 6, 1) + "; set(0, 3, 0) = 2" + parts(3, 8, 20, 0, 44, 18, 6, 1)
+                + "; set(0, 4, 1) = 44" + parts(3, 8, 20, 0, 1, 18, 6, 1) + "; set(0, 7, 0) = 1" + parts(3, 8, 20, 0, 1, 18, 6, 0)
+                + "; pay(0, 5) = 5" + parts(3, 8, 20, 0, 1, 13, 6, 0));
         B.refused("Promise 7", "BEYOND.",
             RICH, "set(-1, 0, 0) = BEYOND", "set(3, 0, 0) = BEYOND", "set(0, -1, 0) = BEYOND", "set(0, 5, 0) = BEYOND",
             "set(0, 6, 0) = BEYOND", "set(0, 5, 1) = BEYOND", "set(0, 6, 1) = BEYOND", "set(0, 8, 0) = BEYOND",

@@ -5,6 +5,8 @@ public final class BoundsVoicesTest {
     private static final String LATE = Boundaries.LATE;
     private static final String CROWDED = Boundaries.CROWDED;
     private static final String NEW = Boundaries.NEW;
+    /** A TEXT of 60 bytes but for its last one. */
+    private static final String SIXTY = "1+".repeat(29) + "0";
     /** BODIES by KINDS and voices, as they begin. */
     private static final int[][][] TRACES = {
         {{10}, {11, 10}, {12, 11, 10}, {13}},
@@ -391,6 +393,12 @@ public final class BoundsVoicesTest {
             "boat(0, 4); tell(4); tell(4); image(); tell(5); check(0) = 3; restore(); count(7) = 2; check(0) = 0",
             "tape('1+'); image(); tape('2'); text(0) = 1; restore(); count(6) = 2; text(0) = -12",
             "image(); tape('2'); restore(); count(6) = 0",
+            "tape('b+'); image(); text(0) = -12; tape('12x'); restore(); count(6) = 2; feed(0x6D, 1) = 3; restore(); count(6) = 2; "
+                + "feed(0x29, 1) = 3; text(0) = -12",
+            "boat(60, 0); tape('" + SIXTY + "9'); image(); text(0) = 1; tape('" + SIXTY + "x'); restore(); count(6) = 60; "
+                + "text(1) = 1; hours(1) = 38",
+            "boat(0, 4); tell(4); image(); check(0) = 0; tell(9); tell(9); restore(); tell(4) = 2; restore(); tell(5) = 2; check(0) = 2",
+            "boat(0, 4); 24 x tell(4); image(); check(0) = 0; 24 x tell(5); restore(); tell(4) = FULL; check(0) = 0",
             "boat(60, 0); law(0, '4'); law(1, '7'); image(); law(0, '5'); untell(1); restore(); boatIs(0, 8) = 4; "
                 + "hours(1) = 7; untell(0) = 1; untell(1) = 1",
             "boat(60, 0); image(); law(0, '4'); law(1, '7'); restore(); boatIs(0, 8) = 3; untell(0) = 0; untell(1) = 0",

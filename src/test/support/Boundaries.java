@@ -141,9 +141,13 @@ final class Boundaries {
 
     /** Ends the program: with 1, if a test failed, or if a word of these sections of the document has no test. */
     void end(String... sections) throws Exception {
-        String document = Files.readString(DOCUMENT);
-        for (String section : sections) {
-            everyWordHasATest(section, sectionOf(document, section));
+        if (Files.exists(DOCUMENT)) {
+            String document = Files.readString(DOCUMENT);
+            for (String section : sections) {
+                everyWordHasATest(section, sectionOf(document, section));
+            }
+        } else {
+            System.out.println("there is no " + DOCUMENT + ": whether each of its words has a test wasn't looked at");
         }
         for (String section : quotes.keySet()) {
             if (!Arrays.asList(sections).contains(section)) {
