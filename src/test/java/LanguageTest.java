@@ -14,6 +14,7 @@ import java.util.regex.Pattern;
 /** Rules of LANGUAGE.md that can be seen from the class and from its source's words. */
 public final class LanguageTest {
     private static final Path SOURCE = Path.of("src/main/java/WindPrice.java");
+    private static final Path DOCUMENT = Path.of("../shared/DOC.md");
     private static final List<String> FACE = List.of(
         "wind(int,int)", "price(int,int)", "boat(int,int)", "boatIs(int,int)", "as(int,int)", "set(int,int,int)",
         "pay(int,int)", "blows(int)", "gone(int)", "feed(long,int)", "text(int)", "untell(int)", "hours(int)",
@@ -38,7 +39,13 @@ public final class LanguageTest {
         for (Class<?> inside : classes()) {
             members(inside);
         }
-        words(bare(Files.readString(SOURCE)));
+        String source = Files.readString(SOURCE);
+        words(bare(source));
+        if (Files.exists(DOCUMENT)) {
+            faceOfDocument(Files.readString(DOCUMENT), source);
+        } else {
+            System.out.println("there is no " + DOCUMENT + ": whether the face is the document's wasn't looked at");
+        }
         System.out.println(wrong == 0 ? "language: all rules are kept" : "language: " + wrong + " breaches");
         if (wrong != 0) {
             System.exit(1);
@@ -77,6 +84,28 @@ public final class LanguageTest {
         for (Field f : face.getDeclaredFields()) {
             rule(1, Modifier.isPrivate(f.getModifiers()), "a field is not private: " + f);
         }
+    }
+
+    /** The document's face is in the source, line by line, with the headings that the document tells. */
+    private static void faceOfDocument(String document, String source) {
+        List<String> due = new ArrayList<>();
+        Matcher heading = Pattern.compile("Ahead of the calls (`.*`) the interface says: (---- .*)\\.\n").matcher(document);
+        while (heading.find()) {
+            due.add("// " + heading.group(2));
+            for (String name : heading.group(1).split(", ")) {
+                Matcher line = Pattern.compile("    (public int " + name.replace("`", "") + "\\(.*\\));\n").matcher(document);
+                due.add(line.find() ? line.group(1) + " {" : "no line of " + name);
+            }
+        }
+        List<String> is = new ArrayList<>();
+        for (String line : source.split("\n")) {
+            if (line.matches("    public int .*|    // ---- .*")) {
+                is.add(line.trim());
+            }
+        }
+        rule(1, is.equals(due), "the face is " + is + ", due is " + due);
+        rule(1, document.contains("public final class WindPrice {\n    public WindPrice();\n"), "the class, or its constructor");
+        rule(1, document.split("    public ").length - 2 == FACE.size(), "the document's face is larger, or smaller");
     }
 
     private static void members(Class<?> c) {
